@@ -207,6 +207,7 @@ public final class BlockVault {
     private static final class Disk {
         private final Page[] pages;
         private boolean on;
+        // Below 0 the power does not go.
         private int writesLeft;
         private int writes;
 
@@ -229,7 +230,7 @@ public final class BlockVault {
         }
 
         void goAfter(int k) {
-            writesLeft = k < 0 ? NONE : k;
+            writesLeft = k;
         }
 
         int writesMade() {
@@ -320,7 +321,6 @@ public final class BlockVault {
             Row row = rowOf(b);
             if (row == null) {
                 row = rowToGive();
-                row.makeEmpty();
                 row.block = b;
                 disk.read(b, row.page);
                 reads++;
