@@ -59,7 +59,7 @@ public final class CacheRowsTest {
     }
 
     private static void onlyOneGivesWay() {
-        Due.says("it has the place of the one, of those that are not held");
+        Due.says("and with all rows taken it has the place of the one, of those that are not held");
         BlockVault x = new BlockVault(80);
         Due.look(x, 0, 34);
         for (int i = 34; i < 40; i++) {

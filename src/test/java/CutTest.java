@@ -26,7 +26,7 @@ public final class CutTest {
     }
 
     private static void behindKMore() {
-        Due.says("the power goes at the write that comes when k more were made");
+        Due.says("POWER. cut(k): the power goes at the write that comes when k more were made");
         for (int k = 0; k < 12; k++) {
             BlockVault x = Due.wentIn(5, k);
             Due.is("off behind cut(" + k + ")", x.count(0), 0);

@@ -24,8 +24,12 @@ final class Due {
     }
 
     static void is(String what, long got, long want) {
+        same(what, got, want);
+    }
+
+    static void same(String what, Object got, Object want) {
         asked++;
-        if (got != want) {
+        if (!got.equals(want)) {
             wrong++;
             if (!printed.equals(sentence)) {
                 printed = sentence;

@@ -12,10 +12,29 @@ public final class FaceTest {
 
     public static void main(String[] args) {
         members();
+        classesInside();
+        noNameTwice();
         noCallThrows();
         callsBehindTheLastOne();
-        Due.is("NONE", BlockVault.NONE, -1);
+        theConstant();
         Due.finish();
+    }
+
+    private static void theConstant() {
+        Due.says("The constants: `NONE = -1`: Nothing there, or the power is off.");
+        Due.is("NONE", BlockVault.NONE, -1);
+        BlockVault x = new BlockVault(80);
+        Due.is("get of no block", x.get(80, 0), -1);
+        Due.is("end of no step", x.end(), -1);
+        Due.is("power that was on", x.power(-1), -1);
+        Due.is("count of no step", x.count(3), -1);
+        Due.is("count of another what", x.count(7), -1);
+        BlockVault off = State.WENT_BEHIND_THAT.make();
+        Due.is("get, off", off.get(0, 0), -1);
+        Due.is("end, off", off.end(), -1);
+        Due.is("flush, off", off.flush(), -1);
+        Due.is("count of no step, off", off.count(3), -1);
+        Due.is("power that goes again", off.power(0), -1);
     }
 
     private static void members() {
@@ -45,6 +64,37 @@ public final class FaceTest {
         if (!Modifier.isPrivate(modifiers)) {
             got.add(text.replace("BlockVault.", ""));
         }
+    }
+
+    /** LANGUAGE.md's rule 1: private or package-visible, and static. */
+    private static void classesInside() {
+        for (Class<?> inside : BlockVault.class.getDeclaredClasses()) {
+            int kind = inside.getModifiers();
+            Due.yes(inside + " is static", Modifier.isStatic(kind));
+            Due.no(inside + " is public or protected", Modifier.isPublic(kind) || Modifier.isProtected(kind));
+        }
+    }
+
+    /** LANGUAGE.md's rule 1: no other method bears the name of a public one. */
+    private static void noNameTwice() {
+        Set<String> names = new TreeSet<>();
+        for (Method m : BlockVault.class.getDeclaredMethods()) {
+            Due.yes("one method alone is named " + m.getName(), names.add(m.getName()));
+        }
+        for (Class<?> inside : BlockVault.class.getDeclaredClasses()) {
+            for (Method m : inside.getDeclaredMethods()) {
+                Due.no(inside + " has a method named as one of the face: " + m.getName(), isOfTheFace(m.getName()));
+            }
+        }
+    }
+
+    private static boolean isOfTheFace(String name) {
+        for (Method m : BlockVault.class.getMethods()) {
+            if (m.getDeclaringClass() == BlockVault.class && m.getName().equals(name)) {
+                return true;
+            }
+        }
+        return false;
     }
 
     private static void noCallThrows() {
@@ -90,8 +140,9 @@ public final class FaceTest {
         return x;
     }
 
-    /** Nothing is promised of them but that they do not throw. */
+    /** LANGUAGE.md's rule 7 asks of them that they do not throw, and the document nothing. */
     private static void callsBehindTheLastOne() {
+        Due.says("what later calls answer is free.");
         BlockVault x = new BlockVault(80);
         for (int i = 0; i < 20000; i++) {
             x.begin();

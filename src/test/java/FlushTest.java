@@ -41,7 +41,7 @@ public final class FlushTest {
     }
 
     private static void nothingHeld() {
-        Due.says("when flush() asks for that, if it holds any");
+        Due.says("and when flush() asks for that, if it holds any.");
         BlockVault x = new BlockVault(80);
         x.cut(0);
         Due.is("new", x.flush(), 0);

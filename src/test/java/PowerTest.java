@@ -64,7 +64,8 @@ public final class PowerTest {
     }
 
     private static void asBehindTheLatestCommit() {
-        Due.says("blocks have the bytes that they had behind the latest commit that counts (its write for that was made)");
+        Due.says("power() brings it back: blocks have the bytes that they had behind the latest commit that counts (its write"
+            + " for that was made), or at the very beginning");
         BlockVault x = new BlockVault(80);
         Due.change(x, 0, 4, 1);
         x.flush();
